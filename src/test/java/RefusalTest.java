@@ -80,44 +80,9 @@ public final class RefusalTest {
 
     private static void each(String name, int[] wrongNumbers, long want, Call call) {
         for (int wrong : wrongNumbers) {
-            ShadowPages pages = filled();
+            ShadowPages pages = Filled.make();
             Due.due(name + " " + wrong, call.on(pages, wrong), want);
-            dueAsFilled(name + " " + wrong, pages);
-        }
-    }
-
-    private static int value(int space, int page, int cell) {
-        return 1 + (space * 8 + page) * 4 + cell;
-    }
-
-    /** No cell of a space is 0, and parcels 0 to 3 hold 1, 2, 0 and 8 pages of spaces 0 to 3. */
-    private static ShadowPages filled() {
-        ShadowPages pages = new ShadowPages();
-        for (int space = 0; space < 4; space++) {
-            for (int page = 0; page < 8; page++) {
-                for (int cell = 0; cell < 4; cell++) {
-                    pages.write(space, page, cell, value(space, page, cell));
-                }
-            }
-        }
-        pages.pack(0, 0, 0, 1);
-        pages.pack(1, 1, 0, 2);
-        pages.pack(3, 3, 0, 8);
-        return pages;
-    }
-
-    private static void dueAsFilled(String name, ShadowPages pages) {
-        int[] sizes = {1, 2, 0, 8};
-        for (int group = 0; group < 4; group++) {
-            Due.due("after " + name + ": size " + group, pages.size(group), sizes[group]);
-            for (int page = 0; page < 8; page++) {
-                for (int cell = 0; cell < 4; cell++) {
-                    String place = "after " + name + ": page " + page + ", cell " + cell + " of ";
-                    int full = value(group, page, cell);
-                    Due.due(place + "space " + group, pages.read(group, page, cell), full);
-                    Due.due(place + "parcel " + group, pages.peek(group, page, cell), page < sizes[group] ? full : 0);
-                }
-            }
+            Filled.dueUnchanged(name + " " + wrong, pages);
         }
     }
 }
